@@ -982,6 +982,18 @@ public final class SoundingSheet {
             }
         }
 
+        /** The least DEPTH of all squares of which one is known. */
+        int leastDepth() {
+            int least = UNKNOWN;
+            for (int square = 0; square < SQUARES; square++) {
+                int known = depths[square];
+                if (known != UNKNOWN && (least == UNKNOWN || known < least)) {
+                    least = known;
+                }
+            }
+            return least;
+        }
+
         private void enter(int s) {
             if (survey.soundings.kinds[s] == SWEPT) {
                 enterSpan(s);
@@ -1053,7 +1065,7 @@ public final class SoundingSheet {
 
         /** What is joined at one depth is joined at every lesser one, so halving finds it. */
         private int greatestFloor(int a, int b) {
-            int low = UNKNOWN;
+            int low = chart.leastDepth();
             int high = Math.min(chart.depths[a], chart.depths[b]);
             for (int i = 0; i < MOST_HALVINGS && low < high; i++) {
                 int middle = low + (high - low + 1) / 2;

@@ -140,6 +140,7 @@ public final class ChannelTest {
         int[][] wrong = {{-1, 0, 1}, {100, 0, 1}, {0, -1, 1}, {0, 256, 1}, {0, 0, -1}, {0, 0, 256},
             {Integer.MIN_VALUE, 0, 0}, {0, Integer.MAX_VALUE, 0}, {0, 0, Integer.MAX_VALUE}};
         for (int[] w : wrong) {
+            DUE.is("a right way ahead of it", x.way(0, 0, 1, 0), 0);
             isNoWay("wrong", x, w[0], w[1], w[2]);
         }
         DUE.is("way beyond all", x.way(0, 0, 1, Integer.MAX_VALUE), NONE);

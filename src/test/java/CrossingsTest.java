@@ -9,6 +9,8 @@ public final class CrossingsTest {
         equalPairsGoByNumbers();
         onlyCorrectedLeadsAndEchoesCross();
         goneOnesCrossStill();
+        linesKeepApart();
+        allSoundingsCross();
         wrongCrossings();
         worstAddsSizes();
         worstNeedsACrossing();
@@ -78,6 +80,31 @@ public final class CrossingsTest {
         x.gone(0, 0);
         x.gone(1, 0);
         isCross("GONE ones", x, new int[] {0, 1, 1}, new int[] {1, 0, 1, -4});
+    }
+
+    private static void linesKeepApart() {
+        SoundingSheet x = withLines(4);
+        for (int line = 0; line < 4; line++) {
+            x.lead(line, 0, 10 * line, line * line, 7 * line * line);
+        }
+        for (int a = 0; a < 4; a++) {
+            for (int b = a + 1; b < 4; b++) {
+                int dy = b * b - a * a;
+                int apart = 100 * (b - a) * (b - a) + dy * dy;
+                isCross("lines " + a + " and " + b, x, new int[] {a, b, 400}, new int[] {apart, a, b, -7 * dy});
+            }
+        }
+    }
+
+    private static void allSoundingsCross() {
+        SoundingSheet x = withLines(20);
+        for (int s = 0; s < 200; s++) {
+            x.lead(s % 20, 0, s, 0, s % 20 == 19 ? 99 : 50);
+        }
+        isCross("the first and the last line", x, new int[] {0, 19, 1}, new int[] {1, 20, 19, -49});
+        isCross("lines side by side", x, new int[] {7, 8, 1}, new int[] {1, 7, 8, 0});
+        DUE.is("worst of twenty", x.worst(400), 19);
+        DUE.is("worst within 1", x.worst(1), 19);
     }
 
     private static void wrongCrossings() {

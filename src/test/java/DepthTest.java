@@ -64,6 +64,13 @@ public final class DepthTest {
         for (int square = 0; square < 256; square++) {
             DUE.is("a place too few for " + square, y.bottom(2, square), UNKNOWN);
         }
+        SoundingSheet v = withLine();
+        v.sweep(0, 0, 1, 0, 255, 256, 30);
+        v.sweep(0, 0, 0, 1, 256, 255, 40);
+        for (int square = 0; square < 256; square++) {
+            int want = square >= 16 ? 40 : square % 16 != 0 ? 30 : UNKNOWN;
+            DUE.is("a place too late for " + square, v.bottom(2, square), want);
+        }
         SoundingSheet z = withLine();
         z.sweep(0, 0, 240, 240, 16, 16, 30);
         z.sweep(0, 0, 0, 0, 256, 256, 0);
