@@ -7,6 +7,9 @@ public final class ChannelTest {
     public static void main(String[] args) {
         theDeepWayGoesAround();
         fewestSquaresThenLesserNumbers();
+        theyPartAtTheFirstSquare();
+        theFirstNarrowOfSeveral();
+        theBottomIsAtLeastD();
         rowsDoNotJoinAtTheirEnds();
         unknownSquaresBar();
         oneSquareAlone();
@@ -68,6 +71,56 @@ public final class ChannelTest {
         SoundingSheet y = drawn(new int[][] {{50, 40, 60}, {60, 45, 60}, {60, 60, 60}});
         isWay("the bottom counts ahead of the length", y, 50, 0, 0, 16, 32, 33, 34, 18, 2);
         isWay("the end bounds it", y, 40, 1, 16, 0, 1);
+    }
+
+    /**
+     * Two ways of as many squares: one goes up first and comes to its end from below, the other one
+     * goes down first and comes from above. Only where they part first counts.
+     */
+    private static void theyPartAtTheFirstSquare() {
+        int a = 16 * 5 + 1;
+        int b = 16 * 5 + 5;
+        int[] up = {a, a - 16, a - 32, a - 48, 34, 35, 36, 37, 38, 39, 55, 71, 87, 103, 102, 101, b};
+        int[] down = {a, a + 16, a + 32, a + 48, a + 64, a + 80, 162, 163, 147, 131, 115, 99, 83, 67, 68, 69, b};
+        SoundingSheet x = new SoundingSheet();
+        for (int i = 0; i < up.length; i++) {
+            x.notice(5, 0, 16 * (up[i] % 16), up[i], 50);
+            x.notice(5, 0, 16 * (down[i] % 16), down[i], 50);
+        }
+        isWay("up first", x, 50, a, up);
+        int[] back = new int[down.length];
+        for (int i = 0; i < down.length; i++) {
+            back[i] = down[down.length - 1 - i];
+        }
+        isWay("back: up first", x, 50, b, back);
+        x.notice(5, 0, 16 * (36 % 16), 36, 49);
+        isWay("down, as it is deeper", x, 50, a, down);
+    }
+
+    private static void theFirstNarrowOfSeveral() {
+        SoundingSheet x = drawn(new int[][] {{90, 60, 70, 60, 80, 60, 90}});
+        isWay("three as narrow", x, 60, 1, 0, 1, 2, 3, 4, 5, 6);
+        isWay("from the other end", x, 60, 5, 6, 5, 4, 3, 2, 1, 0);
+        isWay("between two", x, 60, 3, 2, 3, 4);
+        SoundingSheet y = drawn(new int[][] {{60, 90, 60}});
+        isWay("the last one, too", y, 60, 0, 0, 1, 2);
+        isWay("narrow at the end", y, 60, 2, 1, 2);
+    }
+
+    private static void theBottomIsAtLeastD() {
+        SoundingSheet x = drawn(new int[][] {{9999, 40, 9999}, {9999, -1, 9999}, {9999, 0, 9999}});
+        x.notice(4, 0, 48, 0, -200);
+        int[][] want = {{0, 2, 40}, {0, 34, 40}, {0, 16, 9999}, {0, 3, -200}, {3, 3, -200}, {33, 33, 0}, {0, 33, 0}};
+        for (int[] w : want) {
+            String name = "from " + w[0] + " to " + w[1];
+            DUE.is(name, x.deepest(0, w[0], w[1]), w[2]);
+            DUE.yes(name + ", less", x.draught(0, w[0], w[1], w[2] - 1));
+            DUE.yes(name + ", as deep", x.draught(0, w[0], w[1], w[2]));
+            DUE.no(name + ", more", x.draught(0, w[0], w[1], w[2] + 1));
+            DUE.yes(name + ", UNKNOWN's number", x.draught(0, w[0], w[1], UNKNOWN));
+            DUE.yes(name + ", the least", x.draught(0, w[0], w[1], Integer.MIN_VALUE));
+            DUE.no(name + ", the greatest", x.draught(0, w[0], w[1], Integer.MAX_VALUE));
+        }
     }
 
     private static void rowsDoNotJoinAtTheirEnds() {

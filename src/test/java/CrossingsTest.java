@@ -9,6 +9,7 @@ public final class CrossingsTest {
         equalPairsGoByNumbers();
         onlyCorrectedLeadsAndEchoesCross();
         goneOnesCrossStill();
+        withinUTimesU();
         linesKeepApart();
         allSoundingsCross();
         wrongCrossings();
@@ -80,6 +81,23 @@ public final class CrossingsTest {
         x.gone(0, 0);
         x.gone(1, 0);
         isCross("GONE ones", x, new int[] {0, 1, 1}, new int[] {1, 0, 1, -4});
+    }
+
+    /** For each squared distance the least u that reaches it, and the one below. */
+    private static void withinUTimesU() {
+        int[][] apart = {{0, 0, 0}, {1, 0, 1}, {1, 1, 2}, {2, 0, 2}, {3, 4, 5}, {6, 8, 10}, {20, 21, 29}, {255, 0, 255},
+            {0, 255, 255}, {255, 254, 360}, {255, 255, 361}};
+        for (int[] d : apart) {
+            SoundingSheet x = withLines(2);
+            x.lead(0, 0, 0, 255, 30);
+            x.lead(1, 0, d[0], 255 - d[1], 20);
+            int squared = d[0] * d[0] + d[1] * d[1];
+            isCross("just within", x, new int[] {0, 1, d[2]}, new int[] {squared, 0, 1, 10});
+            isCross("the greatest u", x, new int[] {0, 1, 400}, new int[] {squared, 0, 1, 10});
+            isCross("just beyond", x, new int[] {0, 1, d[2] - 1}, new int[] {NONE, NONE, NONE, UNKNOWN});
+            DUE.is("worst just within", x.worst(d[2]), 0);
+            DUE.is("worst just beyond", x.worst(d[2] - 1), NONE);
+        }
     }
 
     private static void linesKeepApart() {

@@ -6,6 +6,8 @@ public final class DepthTest {
 
     public static void main(String[] args) {
         theLeastOfThoseFound();
+        theLeastInAnyOrder();
+        squaresOfSixteenBySixteen();
         sweptWithoutAnyFound();
         aSpanNeedsAllPlaces();
         wrongBottoms();
@@ -31,6 +33,43 @@ public final class DepthTest {
         for (int day = 0; day < want.length; day++) {
             DUE.is("bottom(" + day + ", 0)", x.bottom(day, 0), want[day]);
         }
+    }
+
+    private static void theLeastInAnyOrder() {
+        int[][] orders = {{30, 20, 10}, {10, 20, 30}, {20, 10, 30}, {20, 30, 10}, {10, 10, 30}, {30, 10, 10}};
+        for (int[] order : orders) {
+            SoundingSheet x = withLine();
+            x.sweep(0, 0, 0, 0, 16, 16, 5);
+            for (int depth : order) {
+                x.lead(0, 0, depth % 16, 0, depth);
+            }
+            x.sweep(0, 0, 0, 0, 256, 256, 40);
+            DUE.is("the least of three", x.bottom(2, 0), 10);
+        }
+    }
+
+    /** Of some squares each corner, and the places beside it that lie in other squares. */
+    private static void squaresOfSixteenBySixteen() {
+        for (int square : new int[] {0, 15, 17, 120, 238, 240, 255}) {
+            int left = 16 * (square % 16);
+            int top = 16 * (square / 16);
+            for (int corner = 0; corner < 4; corner++) {
+                int px = left + 15 * (corner % 2);
+                int py = top + 15 * (corner / 2);
+                DUE.is("a corner of " + square, withNotice(px, py).bottom(2, square), 10);
+                int outX = corner % 2 == 0 ? px - 1 : px + 1;
+                int outY = corner / 2 == 0 ? py - 1 : py + 1;
+                DUE.is("beside a corner of " + square, withNotice(outX, py).bottom(2, square), UNKNOWN);
+                DUE.is("above or below a corner of " + square, withNotice(px, outY).bottom(2, square), UNKNOWN);
+            }
+        }
+    }
+
+    /** Without a notice, if the place is none. */
+    private static SoundingSheet withNotice(int px, int py) {
+        SoundingSheet x = withLine();
+        x.notice(5, 2, px, py, 10);
+        return x;
     }
 
     private static void sweptWithoutAnyFound() {

@@ -8,6 +8,7 @@ public final class LinesTest {
         wrongLinesDoNothing();
         speedHasItsEdges();
         shiftHasItsEdges();
+        everyLineStartsWithoutAShift();
         boatTellsOfALine();
         DUE.end();
     }
@@ -84,6 +85,29 @@ public final class LinesTest {
         DUE.is("SHIFT", x.boat(0, 2), 50);
         DUE.yes("the same SHIFT once more", x.shift(0, 50));
         DUE.is("acts", x.count(3), 4);
+    }
+
+    private static void everyLineStartsWithoutAShift() {
+        SoundingSheet x = new SoundingSheet();
+        x.image();
+        x.line(3, 1500);
+        x.shift(0, 9);
+        x.load();
+        x.line(4, 1400);
+        DUE.is("SHIFT at first after a load()", x.boat(0, 2), 0);
+        x.shift(0, -9);
+        x.undo();
+        DUE.is("SHIFT undone", x.boat(0, 2), 0);
+        x.shift(0, 9);
+        x.line(5, 1600);
+        DUE.is("the next line's", x.boat(1, 2), 0);
+        DUE.is("the first line's", x.boat(0, 2), 9);
+        x.undo();
+        x.undo();
+        x.undo();
+        DUE.is("no line", x.boat(0, 2), SoundingSheet.NONE);
+        x.line(6, 1500);
+        DUE.is("SHIFT at first once more", x.boat(0, 2), 0);
     }
 
     private static void boatTellsOfALine() {

@@ -8,7 +8,12 @@ public final class SheetTest {
         wrecksAndRocksAreAlwaysShown();
         sweptOnesShowWhatStandsInThem();
         aSweepNeedsToCount();
+        alwaysGoesByNumbers();
+        lessDeepOfALaterDay();
+        spansHaveTheirEdges();
+        fewerThanN();
         theShoalestThenTheFarthest();
+        farthestFromAllThatAreShown();
         farthestAtOnePlace();
         whyByTheFirstThatHolds();
         wrongCalls();
@@ -98,6 +103,115 @@ public final class SheetTest {
         x.gone(1, 10);
         isShown("one is GONE", x, new int[] {9, 1, 0}, 2, 3, 4);
         isShown("both are GONE", x, new int[] {10, 1, 0}, 3);
+    }
+
+    /** Those ALWAYS SHOWN stand by numbers, whatever they are SHOWN for. */
+    private static void alwaysGoesByNumbers() {
+        SoundingSheet x = withSweep();
+        x.notice(5, 6, 3, 4, 50);
+        x.notice(4, 6, 9, 9, -2);
+        x.notice(5, 6, 4, 4, 60);
+        x.notice(3, 6, 9, 9, 300);
+        x.notice(5, 6, 12, 12, 1);
+        x.notice(3, 6, 3, 4, 70);
+        isShown("by numbers", x, new int[] {9, 1, 0}, 1, 2, 3, 4, 6);
+        isShown("n = 5", x, new int[] {9, 5, 0}, 1, 2, 3, 4, 6);
+        isShown("n = 6: one more by distance", x, new int[] {9, 6, 0}, 1, 2, 3, 4, 6, 5);
+        DUE.is("why", x.why(9, 6, 5), 2);
+        DUE.is("why not", x.why(9, 5, 5), 6);
+        x.gone(2, 9);
+        isShown("without the ROCK another is the SHOALEST", x, new int[] {9, 1, 0}, 1, 3, 4, 6, 5);
+        DUE.is("why the SHOALEST", x.why(9, 1, 5), 1);
+    }
+
+    private static void lessDeepOfALaterDay() {
+        for (int depth = 99; depth <= 101; depth++) {
+            for (int day = 4; day <= 6; day++) {
+                SoundingSheet x = withSweep();
+                x.notice(5, day, 3, 4, depth);
+                x.notice(5, day, 15, 15, 1);
+                boolean always = depth < 100 && day > 5;
+                DUE.is("depth " + depth + " of day " + day, x.why(99, 1, 1), always ? 0 : 6);
+                isShown("depth " + depth + " of day " + day, x, new int[] {99, 1, 0}, always ? new int[] {1, 2} : new int[] {2});
+            }
+        }
+        SoundingSheet y = withSweep();
+        y.line(6, 1500);
+        y.tide(6, 0, 0);
+        y.lead(1, 0, 3, 4, 100);
+        y.notice(5, 6, 15, 15, 1);
+        DUE.is("a LEAD as deep", y.why(6, 1, 1), 6);
+        y.shift(1, -1);
+        DUE.is("a LEAD less deep by its SHIFT", y.why(6, 1, 1), 0);
+        y.shift(0, -1);
+        DUE.is("the SWEPT one less deep, too", y.why(6, 1, 1), 6);
+        y.shift(0, 0);
+        y.gone(0, 6);
+        DUE.is("the SWEPT one GONE", y.why(6, 1, 1), 6);
+        y.gone(0, 7);
+        DUE.is("the SWEPT one THERE for its last day", y.why(6, 1, 1), 0);
+        DUE.is("and GONE the day behind that", y.why(7, 1, 1), 6);
+    }
+
+    private static void spansHaveTheirEdges() {
+        for (int px = 1; px <= 6; px++) {
+            for (int py = 2; py <= 8; py++) {
+                SoundingSheet x = withSweep();
+                x.notice(5, 6, px, py, 50);
+                x.notice(5, 6, 15, 15, 1);
+                boolean within = px >= 2 && px <= 5 && py >= 3 && py <= 7;
+                DUE.is("at " + px + ", " + py, x.why(6, 1, 1), within ? 0 : 6);
+            }
+        }
+    }
+
+    /** With a ALWAYS SHOWN, the SHOALEST and others, n tells how many of the others follow. */
+    private static void fewerThanN() {
+        for (int always = 0; always <= 7; always++) {
+            SoundingSheet x = new SoundingSheet();
+            for (int i = 0; i < always; i++) {
+                x.notice(3, 0, i, 0, 50);
+            }
+            x.notice(5, 0, 8, 0, 10);
+            for (int i = 0; i < 7; i++) {
+                x.notice(5, 0, 8, 15 - i, 60);
+            }
+            for (int n = 1; n <= 6; n++) {
+                int many = Math.max(n, always + 1);
+                String name = always + " ALWAYS, n = " + n;
+                DUE.is(name + ", the SHOALEST", x.shown(0, n, 0, always), always);
+                DUE.yes(name + ", the last", x.shown(0, n, 0, many - 1) >= always);
+                DUE.is(name + ", no more", x.shown(0, n, 0, many), NONE);
+            }
+        }
+        SoundingSheet few = new SoundingSheet();
+        few.notice(5, 0, 0, 0, 10);
+        few.notice(5, 0, 9, 0, 10);
+        isShown("fewer than n are FOUND", few, new int[] {0, 6, 0}, 0, 1);
+    }
+
+    /** The one nearest to the SHOALEST is far from it, but near to another that is SHOWN. */
+    private static void farthestFromAllThatAreShown() {
+        SoundingSheet x = new SoundingSheet();
+        x.notice(5, 0, 0, 0, 1);
+        x.notice(5, 0, 15, 0, 9);
+        x.notice(5, 0, 14, 0, 9);
+        x.notice(5, 0, 7, 0, 9);
+        x.notice(5, 0, 3, 0, 9);
+        isShown("the middle ahead of the far end", x, new int[] {0, 6, 0}, 0, 1, 3, 4, 2);
+        SoundingSheet y = new SoundingSheet();
+        y.notice(3, 0, 0, 0, 5);
+        y.notice(3, 0, 15, 15, 5);
+        y.notice(5, 0, 15, 14, 9);
+        y.notice(5, 0, 8, 8, 9);
+        y.notice(5, 0, 0, 15, 9);
+        isShown("from both WRECKS", y, new int[] {0, 5, 0}, 0, 1, 4, 3, 2);
+        SoundingSheet z = new SoundingSheet();
+        z.notice(5, 0, 8, 8, 1);
+        z.notice(5, 0, 8, 4, 9);
+        z.notice(5, 0, 4, 8, 9);
+        z.notice(5, 0, 11, 11, 9);
+        isShown("squared, not by steps; of several the least", z, new int[] {0, 4, 0}, 0, 3, 1, 2);
     }
 
     private static void theShoalestThenTheFarthest() {

@@ -16,6 +16,10 @@ public final class SoundingsTest {
         soundingTellsAll();
         depthIsCutDown();
         depthFollowsItsLine();
+        aWholeNumberStays();
+        depthAtItsFarthest();
+        waitsOutsideOfTheHeights();
+        thereFromItsDayOn();
         DUE.end();
     }
 
@@ -210,6 +214,113 @@ public final class SoundingsTest {
         DUE.is("999 times 1401 / 2000 less 1 / 3", x.depth(5), 699);
         DUE.is("depth(6)", x.depth(6), UNKNOWN);
         DUE.is("depth(-1)", x.depth(-1), UNKNOWN);
+    }
+
+    private static void aWholeNumberStays() {
+        SoundingSheet x = new SoundingSheet();
+        x.line(0, 1500);
+        x.tide(0, 0, 0);
+        x.tide(0, 1439, 1);
+        x.tide(0, 1435, 0);
+        x.echo(0, 1438, 0, 0, Float.floatToRawIntBits(1f));
+        x.echo(0, 1437, 0, 0, Float.floatToRawIntBits(1f));
+        x.echo(0, 1439, 0, 0, Float.floatToRawIntBits(1f));
+        DUE.is("3 / 4 less 3 / 4", x.depth(0), 0);
+        DUE.is("3 / 4 less 2 / 4", x.depth(1), 0);
+        DUE.is("3 / 4 less 1", x.depth(2), -1);
+        x.speed(0, 1499);
+        DUE.is("1499 / 2000 less 3 / 4", x.depth(0), -1);
+        x.speed(0, 1501);
+        DUE.is("1501 / 2000 less 3 / 4", x.depth(0), 0);
+        x.shift(0, 50);
+        DUE.is("with a SHIFT up", x.depth(0), 50);
+        x.shift(0, -50);
+        DUE.is("with a SHIFT down", x.depth(0), -50);
+        x.speed(0, 1499);
+        DUE.is("both down", x.depth(0), -51);
+        x.lead(0, 1438, 0, 0, 51);
+        DUE.is("51 less 50 and 3 / 4", x.depth(3), 0);
+        x.sweep(0, 1438, 0, 0, 1, 1, 50);
+        DUE.is("50 less 50 and 3 / 4", x.depth(4), -1);
+    }
+
+    private static void depthAtItsFarthest() {
+        SoundingSheet x = new SoundingSheet();
+        x.line(0, 1600);
+        x.line(1, 1400);
+        x.tide(0, 0, -100);
+        x.tide(1, 1439, 200);
+        x.shift(0, 50);
+        x.shift(1, -50);
+        x.echo(0, 0, 0, 0, Float.floatToRawIntBits(19999f));
+        x.lead(0, 0, 0, 0, 9999);
+        x.sweep(0, 0, 0, 0, 1, 1, 9999);
+        x.echo(1, 1439, 0, 0, 0);
+        x.lead(1, 1439, 0, 0, 0);
+        x.sweep(1, 1439, 0, 0, 1, 1, 0);
+        int[] want = {16149, 10149, 10149, -250, -250, -250};
+        for (int s = 0; s < want.length; s++) {
+            DUE.is("depth(" + s + ")", x.depth(s), want[s]);
+            DUE.is("it doesn't WAIT", x.sounding(s, 10), 0);
+        }
+        DUE.is("none WAITS", x.count(2), 0);
+    }
+
+    private static void waitsOutsideOfTheHeights() {
+        SoundingSheet x = withLine();
+        x.tide(3, 100, 10);
+        x.tide(3, 200, 10);
+        x.tide(2, 0, 10);
+        x.tide(4, 1439, 10);
+        int[] minutes = {0, 99, 100, 101, 199, 200, 201, 1439};
+        int[] waits = {1, 1, 0, 0, 0, 0, 1, 1};
+        for (int i = 0; i < minutes.length; i++) {
+            int lead = x.lead(0, minutes[i], 0, 0, 30);
+            int echo = x.echo(0, minutes[i], 0, 0, Float.floatToRawIntBits(40f));
+            int sweep = x.sweep(0, minutes[i], 0, 0, 1, 1, 30);
+            for (int s : new int[] {lead, echo, sweep}) {
+                DUE.is("WAITS at " + minutes[i], x.sounding(s, 10), waits[i]);
+                DUE.is("depth at " + minutes[i], x.depth(s), waits[i] == 1 ? UNKNOWN : 20);
+            }
+        }
+        DUE.is("those that WAIT", x.count(2), 12);
+        x.tide(3, 1439, 10);
+        DUE.is("a height behind them all", x.count(2), 6);
+        x.tide(3, 0, 10);
+        DUE.is("a height ahead of them all", x.count(2), 0);
+    }
+
+    private static SoundingSheet oneOfEachKind(int day) {
+        SoundingSheet x = new SoundingSheet();
+        x.line(day, 1500);
+        x.tide(day, 0, 0);
+        x.lead(0, 0, 0, 0, 5);
+        x.echo(0, 0, 16, 0, Float.floatToRawIntBits(8f));
+        x.sweep(0, 0, 32, 0, 16, 16, 5);
+        x.notice(3, day, 48, 0, 5);
+        x.notice(4, day, 64, 0, -5);
+        x.notice(5, day, 80, 0, 5);
+        return x;
+    }
+
+    private static void thereFromItsDayOn() {
+        int[][] days = {{0, 100}, {0, 0}, {0, 1}, {0, 99}, {50, 100}, {50, 51}, {50, 50}, {50, 49}, {50, 0}, {99, 100},
+            {99, 99}, {98, 99}};
+        for (int[] d : days) {
+            SoundingSheet x = oneOfEachKind(d[0]);
+            for (int s = 0; s < 6; s++) {
+                DUE.is("GONE from " + d[1], x.gone(s, d[1]) ? 1 : 0, d[1] == 100 ? 0 : 1);
+            }
+            for (int day : new int[] {0, 1, 48, 49, 50, 51, 97, 98, 99}) {
+                boolean there = d[0] <= day && day < d[1];
+                for (int s = 0; s < 6; s++) {
+                    int known = s == 1 ? 6 : s == 4 ? -5 : 5;
+                    String name = "KIND " + s + " of " + d[0] + ", GONE from " + d[1] + ", on " + day;
+                    DUE.is(name, x.bottom(day, s), there ? known : UNKNOWN);
+                    DUE.is("why, " + name, x.why(day, 1, s), s == 2 ? 3 : !there ? 4 : s == 3 || s == 4 ? 0 : 1);
+                }
+            }
+        }
     }
 
     private static void depthFollowsItsLine() {

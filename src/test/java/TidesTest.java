@@ -8,6 +8,8 @@ public final class TidesTest {
         twelveAreTheMost();
         waterGoesByExactFractions();
         waterEndsWithTheDay();
+        aHeightToldStandsAlone();
+        theNearestOfTwelve();
         wrongWaterIsUnknown();
         DUE.end();
     }
@@ -77,6 +79,42 @@ public final class TidesTest {
         DUE.is("first", x.water(2, 100, 1), 20);
         DUE.is("last", x.water(2, 200, 1), 30);
         DUE.is("behind the last", x.water(2, 201, 1), SoundingSheet.UNKNOWN);
+    }
+
+    private static void aHeightToldStandsAlone() {
+        SoundingSheet x = new SoundingSheet();
+        x.tide(0, 1439, 10);
+        x.tide(1, 0, 20);
+        x.tide(1, 2, 40);
+        DUE.is("the last minute of a day", x.water(0, 1439, 1), 10);
+        DUE.is("the minute ahead of it", x.water(0, 1438, 1), SoundingSheet.UNKNOWN);
+        DUE.is("the first minute of the next", x.water(1, 0, 1), 20);
+        DUE.is("between", x.water(1, 1, 1), 30);
+        x.tide(1, 1, -7);
+        DUE.is("told for it, not between", x.water(1, 1, 1), -7);
+        DUE.is("nothing behind the last", x.water(1, 3, 1), SoundingSheet.UNKNOWN);
+        x.undo();
+        DUE.is("between again", x.water(1, 1, 1), 30);
+        DUE.is("a day without any", x.water(2, 0, 1), SoundingSheet.UNKNOWN);
+    }
+
+    private static void theNearestOfTwelve() {
+        SoundingSheet x = new SoundingSheet();
+        int[] minutes = {500, 100, 900, 300, 700, 1100, 200, 1000, 400, 800, 600, 1200};
+        for (int minute : minutes) {
+            x.tide(9, minute, minute / 100 % 2 == 0 ? 200 : -100);
+        }
+        for (int minute = 100; minute <= 1200; minute++) {
+            if (minute % 100 == 1 || minute % 100 == 99 || minute % 100 == 0 || minute % 100 == 37) {
+                boolean falls = minute / 100 % 2 == 0;
+                int part = minute % 100;
+                int want = falls ? 200 * 100 - 300 * part : -100 * 100 + 300 * part;
+                DUE.is("water at " + minute, x.water(9, minute, 100), want);
+                DUE.is("cut down at " + minute, x.water(9, minute, 1), Math.floorDiv(want, 100));
+            }
+        }
+        DUE.is("ahead of the first", x.water(9, 99, 1), SoundingSheet.UNKNOWN);
+        DUE.is("behind the last", x.water(9, 1201, 1), SoundingSheet.UNKNOWN);
     }
 
     private static void wrongWaterIsUnknown() {
