@@ -4,6 +4,7 @@ public final class ActsTest {
 
     public static void main(String[] args) {
         everyActIsUndone();
+        oldValuesComeBack();
         refusalsAreNoActs();
         theLatestTwentyCanBeUndone();
         undoneActsMakeRoom();
@@ -58,6 +59,32 @@ public final class ActsTest {
         x.lead(0, 0, 0, 0, 1);
         DUE.is("no span is left over", x.sounding(0, 8), 1);
         DUE.is("nor a day", x.sounding(0, 7), 100);
+    }
+
+    private static void oldValuesComeBack() {
+        SoundingSheet x = new SoundingSheet();
+        x.line(1, 1450);
+        x.line(2, 1550);
+        x.notice(5, 0, 0, 0, 0);
+        for (int i = 1; i <= 4; i++) {
+            x.speed(i % 2, 1400 + i);
+            x.shift(i % 2, 10 * i - 25);
+            x.tide(99, 1439, i);
+            x.gone(0, 60 - i);
+        }
+        int[][] want = {{1404, 1403, 15, 5, 4, 56}, {1402, 1403, -5, 5, 3, 57}, {1402, 1401, -5, -15, 2, 58},
+            {1450, 1401, 0, -15, 1, 59}, {1450, 1550, 0, 0, SoundingSheet.UNKNOWN, 100}};
+        for (int[] w : want) {
+            DUE.is("SPEED of line 0", x.boat(0, 1), w[0]);
+            DUE.is("SPEED of line 1", x.boat(1, 1), w[1]);
+            DUE.is("SHIFT of line 0", x.boat(0, 2), w[2]);
+            DUE.is("SHIFT of line 1", x.boat(1, 2), w[3]);
+            DUE.is("the height", x.water(99, 1439, 1), w[4]);
+            DUE.is("GONE from", x.sounding(0, 7), w[5]);
+            for (int i = 0; i < 4; i++) {
+                x.undo();
+            }
+        }
     }
 
     private static void undone(SoundingSheet x, int left) {

@@ -17,6 +17,7 @@ public final class SoundingsTest {
         depthIsCutDown();
         depthFollowsItsLine();
         aWholeNumberStays();
+        fractionsAreExact();
         depthAtItsFarthest();
         waitsOutsideOfTheHeights();
         thereFromItsDayOn();
@@ -242,6 +243,23 @@ public final class SoundingsTest {
         DUE.is("51 less 50 and 3 / 4", x.depth(3), 0);
         x.sweep(0, 1438, 0, 0, 1, 1, 50);
         DUE.is("50 less 50 and 3 / 4", x.depth(4), -1);
+    }
+
+    /** 7 n + 2.1 less 0.1, which falls short of a whole number when reckoned in doubles. */
+    private static void fractionsAreExact() {
+        for (int first = 0; first < 1900; first += 190) {
+            SoundingSheet x = new SoundingSheet();
+            x.line(0, 1400);
+            x.tide(0, 0, 0);
+            x.tide(0, 10, 1);
+            for (int i = 0; i < 190; i++) {
+                int n = first + i;
+                x.echo(0, 1, 0, 0, Float.floatToRawIntBits(10f * n + 3));
+                DUE.is("ECHO of " + (10 * n + 3), x.depth(i), 7 * n + 2);
+            }
+            x.shift(0, -1);
+            DUE.is("with a SHIFT", x.depth(7), 7 * (first + 7) + 1);
+        }
     }
 
     private static void depthAtItsFarthest() {

@@ -10,6 +10,7 @@ public final class TidesTest {
         waterEndsWithTheDay();
         aHeightToldStandsAlone();
         theNearestOfTwelve();
+        fractionsAreExact();
         wrongWaterIsUnknown();
         DUE.end();
     }
@@ -115,6 +116,22 @@ public final class TidesTest {
         }
         DUE.is("ahead of the first", x.water(9, 99, 1), SoundingSheet.UNKNOWN);
         DUE.is("behind the last", x.water(9, 1201, 1), SoundingSheet.UNKNOWN);
+    }
+
+    /** One part of so many, that many times, is 1; reckoned in doubles it is less for 49 and others. */
+    private static void fractionsAreExact() {
+        for (int parts = 2; parts < 1440; parts++) {
+            SoundingSheet x = new SoundingSheet();
+            x.tide(7, 0, 0);
+            x.tide(7, parts, 1);
+            x.tide(8, 1439 - parts, -1);
+            x.tide(8, 1439, -2);
+            DUE.is("one of " + parts, x.water(7, 1, parts), 1);
+            DUE.is("one of " + parts + " and a bit less", x.water(7, 1, parts - 1), 0);
+            DUE.is("all but one of " + parts, x.water(7, parts - 1, parts), parts - 1);
+            DUE.is("falling by one of " + parts, x.water(8, 1440 - parts, parts), -parts - 1);
+            DUE.is("falling by all but one of " + parts, x.water(8, 1438, parts), 1 - 2 * parts);
+        }
     }
 
     private static void wrongWaterIsUnknown() {
