@@ -11,6 +11,8 @@ public final class FullTest {
         heightsUpToTwelve();
         heightsInPlaceWhenFull();
         soundingsUpToTwoHundred();
+        fullWithoutActs();
+        fullWithOtherActs();
         otherActsGoOnWhenFull();
         actsUpToTwenty();
         theOldestActStays();
@@ -116,6 +118,58 @@ public final class FullTest {
             }
             return x;
         });
+    }
+
+    /** 20 lines, 12 heights on day 5 and 200 soundings; no act can be undone. */
+    private static SoundingSheet allFull() {
+        SoundingSheet x = withLines(20);
+        for (int i = 0; i < 12; i++) {
+            x.tide(5, 100 * i, i);
+        }
+        for (int i = 0; i < 200; i++) {
+            add(x, i % 6, i);
+        }
+        x.image();
+        x.load();
+        return x;
+    }
+
+    /** A refused call that counted as an act would be the only one here. */
+    private static void fullWithoutActs() {
+        eachIsRefused("no acts", FullTest::allFull);
+        SoundingSheet x = allFull();
+        DUE.is("lines", x.count(0), 20);
+        DUE.is("soundings", x.count(1), 200);
+        DUE.is("acts", x.count(3), 0);
+    }
+
+    /** A refused call that counted as an act would be undone in place of these. */
+    private static void fullWithOtherActs() {
+        eachIsRefused("two acts", () -> {
+            SoundingSheet x = allFull();
+            x.gone(7, 50);
+            x.shift(3, 4);
+            return x;
+        });
+        eachIsRefused("twenty acts", () -> {
+            SoundingSheet x = allFull();
+            for (int i = 0; i < 10; i++) {
+                x.gone(7, 50 + i);
+                x.shift(i, 4 + i);
+            }
+            return x;
+        });
+    }
+
+    private static void eachIsRefused(String name, Supplier<SoundingSheet> office) {
+        refused(name + ": line", office, NONE, "line", 5, 1500);
+        refused(name + ": tide", office, NONE, "tide", 5, 50, 1);
+        refused(name + ": lead", office, NONE, "lead", 0, 0, 0, 0, 0);
+        refused(name + ": echo", office, NONE, "echo", 0, 0, 0, 0, 0);
+        refused(name + ": sweep", office, NONE, "sweep", 0, 0, 0, 0, 1, 1, 0);
+        refused(name + ": notice of a WRECK", office, NONE, "notice", 3, 5, 0, 0, 0);
+        refused(name + ": notice of a ROCK", office, NONE, "notice", 4, 5, 0, 0, -1);
+        refused(name + ": notice of one REPORTED", office, NONE, "notice", 5, 5, 0, 0, 0);
     }
 
     private static void otherActsGoOnWhenFull() {
