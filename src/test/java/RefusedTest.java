@@ -1,3 +1,4 @@
+import java.util.Arrays;
 import java.util.List;
 import java.util.function.Supplier;
 
@@ -21,6 +22,7 @@ public final class RefusedTest {
         numbersEndWithWhatIsThere();
         whatWasUndoneIsNoMore();
         questionsChangeNothing();
+        questionsDoNotMix();
         DUE.end();
     }
 
@@ -244,5 +246,48 @@ public final class RefusedTest {
             }
             return x;
         });
+    }
+
+    /** Squares with many and with few soundings, two ways, two pairs of lines, two days. */
+    private static SoundingSheet manyThings() {
+        SoundingSheet x = office();
+        x.lead(0, 600, 12, 3, 70);
+        x.lead(1, 600, 3, 12, 75);
+        x.notice(5, 4, 1, 1, 60);
+        x.notice(5, 4, 2, 9, 61);
+        x.notice(5, 4, 20, 9, 62);
+        x.notice(5, 4, 40, 9, 63);
+        x.notice(5, 4, 41, 9, 64);
+        x.line(3, 1600);
+        x.lead(2, 600, 250, 250, 9);
+        return x;
+    }
+
+    /** No answer depends on what was asked ahead of it. */
+    private static void questionsDoNotMix() {
+        String[] names = {"shown", "shown", "shown", "why", "why", "cross", "cross", "worst", "bottom", "bottom",
+            "deepest", "deepest", "way", "way", "narrow", "draught", "check", "water", "water", "depth", "sounding",
+            "count", "boat"};
+        int[][][] args = {{{3, 1, 0, 0}, {9, 1, 0, 0}, {9, 6, 0, 5}, {9, 1, 2, 0}}, {{9, 6, 1, 0}, {9, 6, 1, 1}, {9, 6, 1, 2}},
+            {{9, 6, 2, 1}, {9, 6, 2, 2}, {9, 6, 255, 1}, {9, 6, 77, 0}}, {{9, 1, 0}, {9, 6, 0}, {9, 1, 6}},
+            {{9, 6, 8}, {9, 1, 10}, {3, 6, 10}}, {{0, 1, 9, 0}, {0, 1, 9, 3}, {0, 1, 0, 1}}, {{0, 2, 400, 2}, {1, 2, 9, 3}},
+            {{0}, {400}}, {{9, 0}, {9, 1}, {9, 77}}, {{3, 0}, {3, 51}, {0, 0}}, {{9, 0, 33}, {9, 33, 0}, {9, 0, 255}},
+            {{3, 0, 33}, {0, 0, 0}}, {{9, 0, 51, 3}, {9, 51, 0, 3}, {9, 0, 1, 2}}, {{3, 0, 51, 6}, {3, 0, 51, 7}},
+            {{9, 0, 51}, {9, 51, 34}, {9, 0, 77}}, {{9, 0, 33, 20}, {9, 0, 33, 21}}, {{9, 0, 20}, {9, 77, 20}},
+            {{3, 600, 1}, {3, 601, 1}}, {{5, 600, 1439}, {9, 600, 1}}, {{0}, {1}, {99}}, {{0, 10}, {2, 8}}, {{2}, {3}},
+            {{0, 3}, {2, 3}}};
+        for (int i = 0; i < names.length; i++) {
+            for (int[] asked : args[i]) {
+                int alone = Calls.call(manyThings(), names[i], asked);
+                for (int j = 0; j < names.length; j++) {
+                    for (int[] ahead : args[j]) {
+                        SoundingSheet x = manyThings();
+                        Calls.call(x, names[j], ahead);
+                        String name = names[j] + Arrays.toString(ahead) + " ahead of " + names[i] + Arrays.toString(asked);
+                        DUE.is(name, Calls.call(x, names[i], asked), alone);
+                    }
+                }
+            }
+        }
     }
 }

@@ -15,6 +15,7 @@ public final class SheetTest {
         theShoalestThenTheFarthest();
         farthestFromAllThatAreShown();
         farthestAtOnePlace();
+        everySquareStandsAlone();
         whyByTheFirstThatHolds();
         wrongCalls();
         DUE.end();
@@ -237,6 +238,28 @@ public final class SheetTest {
             x.notice(5, 0, 7, 7, 9);
         }
         isShown("all at one place", x, new int[] {0, 6, 0}, 0, 1, 2, 3, 4, 5);
+    }
+
+    /** What was FOUND in a crowded square isn't SHOWN in the next one. */
+    private static void everySquareStandsAlone() {
+        SoundingSheet x = new SoundingSheet();
+        for (int i = 0; i < 9; i++) {
+            x.notice(i == 4 ? 3 : 5, 0, i, 15 - i, 20 - i);
+        }
+        x.notice(5, 0, 16, 0, 5);
+        x.notice(5, 0, 200, 200, 6);
+        x.notice(5, 0, 201, 200, 6);
+        int[] crowded = {0, 1, 0};
+        isShown("crowded", x, crowded, 4, 8);
+        DUE.is("no second one at once", x.shown(0, 6, 1, 1), NONE);
+        isShown("one alone", x, new int[] {0, 6, 1}, 9);
+        isShown("crowded again", x, crowded, 4, 8);
+        DUE.is("no third one at once", x.shown(0, 6, 204, 2), NONE);
+        isShown("two alone", x, new int[] {0, 6, 204}, 10, 11);
+        isShown("none", x, new int[] {0, 6, 2});
+        DUE.is("why of one alone", x.why(0, 6, 9), 1);
+        DUE.is("why of one in the crowd", x.why(0, 1, 0), 6);
+        isShown("one alone again", x, new int[] {0, 6, 1}, 9);
     }
 
     private static void whyByTheFirstThatHolds() {
