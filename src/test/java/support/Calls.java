@@ -48,8 +48,15 @@ final class Calls {
             case "check" -> x.check(a[0], a[1], a[2]);
             case "undo" -> number(x.undo());
             case "load" -> number(x.load());
+            case "image" -> image(x);
             default -> throw new IllegalArgumentException(name);
         };
+    }
+
+    /** It answers nothing, which counts 0. */
+    private static int image(SoundingSheet x) {
+        x.image();
+        return 0;
     }
 
     private static int number(boolean answer) {
